@@ -193,6 +193,7 @@ public final class ShapeTool {
                 past.keepWritten();
                 return times;
             }
+            // The first one is what put() would be: its refusal is put()'s, and no text has changed yet.
             if (many == REFUSED && times == 0) {
                 return REFUSED;
             }

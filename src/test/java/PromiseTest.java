@@ -15,6 +15,7 @@ public final class PromiseTest {
     }
 
     public static void main(String[] args) {
+        readmeExample();
         newObject();
         feed();
         end();
@@ -37,6 +38,22 @@ public final class PromiseTest {
         at();
         count();
         CHECK.finish();
+    }
+
+    private static void readmeExample() {
+        Tool tool = new Tool();
+        tool.it.feed(0x6628612c, 0x20672831, 0x2c322929, 0, 0);
+        due("README: text", true, tool.it.take(0));
+        tool.it.feed(0x67283f78, 0x2c3f7929, 0, 0, 0);
+        due("README: pattern", true, tool.it.take(1));
+        tool.it.feed(0x68283f79, 0x2c203f78, 0x29000000, 0, 0);
+        due("README: template", true, tool.it.take(2));
+        due("README: matches", 1, tool.it.matches());
+        due("README: hole", 3, tool.it.hole(tool.it.match(0), 23));
+        due("README: put", 1, tool.it.put(0));
+        due("README: text after put", "f(a, h(2, 1))", tool.text());
+        due("README: back", true, tool.it.back());
+        due("README: text after back", "f(a, g(1,2))", tool.text());
     }
 
     private static void newObject() {
@@ -244,6 +261,10 @@ public final class PromiseTest {
         tool.it.fault(1);
         due("4: fault changes nothing", 5, tool.it.count(3));
         due("4: nor the text", "a", tool.text());
+        tool.it.end(3);
+        due("4: what was behind the end is forgotten", 3, tool.it.fault(1));
+        tool.it.end(2);
+        due("4: and an atom too", 2, tool.it.fault(0));
     }
 
     private static void take() {
@@ -624,14 +645,20 @@ public final class PromiseTest {
         due("17: refused on the way", -1, longer.it.putAll(0));
         due("17: text as before", "f(ab)", longer.text());
         due("17: matches as before", "0", longer.matches());
-        Tool full = tool("c", "c", "c");
+        failingWithAllKept();
+    }
+
+    private static void failingWithAllKept() {
+        Tool full = tool("c(a)", "c(*r)", "c(*r,a)");
         for (int k = 0; k < 12; k++) {
             full.it.put(0);
         }
         due("17: a failing one", -1, full.it.putAll(0));
+        due("17: text as before", "c(a" + ",a".repeat(12) + ")", full.text());
         due("17: takes nothing away", 10, full.it.count(4));
-        for (int k = 0; k < 10; k++) {
+        for (int k = 11; k >= 2; k--) {
             due("17: all ten are there", true, full.it.back());
+            due("17: text", "c(a" + ",a".repeat(k) + ")", full.text());
         }
         due("17: no more", false, full.it.back());
     }

@@ -51,7 +51,7 @@ public final class RandomTest {
 
     private void run(int[] seen) {
         while (calls < CALLS && !failed) {
-            switch (random.nextInt(10)) {
+            switch (random.nextInt(11)) {
                 case 0:
                     takeText();
                     break;
@@ -73,6 +73,9 @@ public final class RandomTest {
                     asks(seen);
                     break;
                 case 8:
+                    wild();
+                    break;
+                case 9:
                     boolean back = model.back();
                     same("back()", back, tool.back());
                     seen[6] += back ? 1 : 0;
@@ -187,6 +190,33 @@ public final class RandomTest {
                 same("row(" + asked + ", " + letter + ")", model.row(asked, letter), tool.row(asked, letter));
             }
         }
+    }
+
+    private int wildNumber() {
+        int[] wild = {Integer.MIN_VALUE, Integer.MAX_VALUE, -2, -1, 0, 1, 2, 3, 25, 26, 31, 32, 119, 120, 239, 240, 256};
+        int k = random.nextInt(wild.length + 1);
+        return k < wild.length ? wild[k] : random.nextInt();
+    }
+
+    private void wild() {
+        int a = wildNumber();
+        int b = wildNumber();
+        String both = "(" + a + ", " + b + ")";
+        same("node" + both, model.node(a, b), tool.node(a, b));
+        same("alike" + both, model.alike(a, b), tool.alike(a, b));
+        same("hole" + both, model.hole(a, b), tool.hole(a, b));
+        same("row" + both, model.row(a, b), tool.row(a, b));
+        same("takes" + both, model.takes(a, b), tool.takes(a, b));
+        same("differ" + both, model.differ(a, b, true), tool.differ(a, b, true));
+        same("match(" + a + ")", model.match(a), tool.match(a));
+        same("taken(" + a + ")", model.taken(a), tool.taken(a));
+        same("count(" + a + ")", model.count(a), tool.count(a));
+        same("fault(" + a + ")", model.fault(a), tool.fault(a));
+        same("take(" + a + ")", model.take(a), tool.take(a));
+        same("put(" + a + ")", model.put(a), tool.put(a));
+        same("putAll(" + a + ")", model.putAll(a), tool.putAll(a));
+        same("end(" + a + ")", model.end(a), tool.end(a));
+        same("feed" + both, model.feed(a, b, 0, a, b), tool.feed(a, b, 0, a, b));
     }
 
     private void tapes() {
