@@ -440,15 +440,7 @@ public final class PromiseTest {
 
     /** What the letters a, b, .. are as the first node is matched: node and how many. */
     private static void way(String text, String pattern, String due) {
-        Tool tool = tool(text, pattern, "a");
-        StringBuilder got = new StringBuilder();
-        for (int letter = 0; letter < 26; letter++) {
-            if (tool.it.row(0, letter) != -1) {
-                got.append(got.length() == 0 ? "" : " ").append((char) ('a' + letter)).append(tool.it.hole(0, letter));
-                got.append('x').append(tool.it.row(0, letter));
-            }
-        }
-        due("12, 13: '" + pattern + "' in '" + text + "'", due, got.toString());
+        due("12, 13: '" + pattern + "' in '" + text + "'", due, tool(text, pattern, "a").letters(0));
     }
 
     private static void firstWay() {
