@@ -15,7 +15,6 @@ public final class PromiseTest {
     }
 
     public static void main(String[] args) {
-        readmeExample();
         newObject();
         feed();
         end();
@@ -38,22 +37,6 @@ public final class PromiseTest {
         at();
         count();
         CHECK.finish();
-    }
-
-    private static void readmeExample() {
-        Tool tool = new Tool();
-        tool.it.feed(0x6628612c, 0x20672831, 0x2c322929, 0, 0);
-        due("README: text", true, tool.it.take(0));
-        tool.it.feed(0x67283f78, 0x2c3f7929, 0, 0, 0);
-        due("README: pattern", true, tool.it.take(1));
-        tool.it.feed(0x68283f79, 0x2c203f78, 0x29000000, 0, 0);
-        due("README: template", true, tool.it.take(2));
-        due("README: matches", 1, tool.it.matches());
-        due("README: hole", 3, tool.it.hole(tool.it.match(0), 23));
-        due("README: put", 1, tool.it.put(0));
-        due("README: text after put", "f(a, h(2, 1))", tool.text());
-        due("README: back", true, tool.it.back());
-        due("README: text after back", "f(a, g(1,2))", tool.text());
     }
 
     private static void newObject() {
