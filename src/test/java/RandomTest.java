@@ -5,8 +5,10 @@ import java.util.Random;
 
 /** Random runs of calls on a ShapeTool and on the Model: every answer must be the same. */
 public final class RandomTest {
-    private static final int RUNS = 3000;
-    private static final int CALLS = 500;
+    private static final int RUNS = 8000;
+    // What an object answers after that many calls is free.
+    private static final int MOST_CALLS = 512;
+    private static final int MOST_CALLS_OF_A_STEP = 110;
     private static final String[] ATOMS = {"a", "b", "f", "g", "f", "g", "ab", "0"};
 
     private final Random random;
@@ -17,6 +19,7 @@ public final class RandomTest {
     private int calls = 0;
     private boolean failed = false;
     private String latestText = "a";
+    private String readText = "";
     private String latestPattern = "a";
 
     private RandomTest(long seed, Check check) {
@@ -50,7 +53,7 @@ public final class RandomTest {
     }
 
     private void run(int[] seen) {
-        while (calls < CALLS && !failed) {
+        while (calls + MOST_CALLS_OF_A_STEP <= MOST_CALLS && !failed) {
             switch (random.nextInt(11)) {
                 case 0:
                     takeText();
@@ -84,8 +87,12 @@ public final class RandomTest {
                     tapes();
             }
             latestText = model.text();
-            texts();
+            counts();
+            if (!latestText.equals(readText) && calls + latestText.length() < MOST_CALLS) {
+                readText();
+            }
         }
+        check.same("the run keeps within its calls", true, calls <= MOST_CALLS);
     }
 
     private void feed(String bytes) {
@@ -132,12 +139,17 @@ public final class RandomTest {
         }
     }
 
-    private void texts() {
+    private void readText() {
         StringBuilder read = new StringBuilder();
-        for (int i = 0; i < tool.count(0); i++) {
-            read.append((char) tool.at(i));
+        for (int i = 0; i < latestText.length(); i++) {
+            read.append((char) toolAt(i));
+            calls++;
         }
-        same("text", model.text(), read.toString());
+        readText = latestText;
+        same("text", latestText, read.toString());
+    }
+
+    private void counts() {
         for (int what = -1; what < 6; what++) {
             same("count(" + what + ")", model.count(what), tool.count(what));
         }
@@ -161,6 +173,11 @@ public final class RandomTest {
         }
     }
 
+    /** Of a row of so many: the first ones, one of all, the last one, and those that are just beside the row. */
+    private int[] places(int many) {
+        return new int[] {-1, 0, 1, 2, random.nextInt(Math.max(1, many)), many - 1, many};
+    }
+
     private void asks(int[] seen) {
         int nodes = model.nodes();
         same("nodes()", nodes, tool.nodes());
@@ -173,13 +190,13 @@ public final class RandomTest {
         int matches = model.matches();
         seen[5] += matches;
         same("matches()", matches, tool.matches());
-        for (int i = -1; i <= matches; i++) {
+        for (int i : places(matches)) {
             same("match(" + i + ")", model.match(i), tool.match(i));
         }
         for (int rule = -1; rule < 4; rule++) {
             int taken = model.taken(rule);
             same("taken(" + rule + ")", taken, tool.taken(rule));
-            for (int i = -1; i <= Math.max(0, taken); i++) {
+            for (int i : places(taken)) {
                 same("takes(" + rule + ", " + i + ")", model.takes(rule, i), tool.takes(rule, i));
             }
         }
